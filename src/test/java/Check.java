@@ -4,9 +4,23 @@ final class Check {
         void run();
     }
 
+    static final int NONE = -1;
+
+    static final int ADD = 0, GET = 1, PUT = 2, YIELD = 3, LOOP = 4, SKIP = 5, TRY = 6, DONE = 7, LAST = 8, THROW = 9,
+        FROM = 10, RETURN = 11, SLEEP = 12, AWAIT = 13, SPAWN = 14, SHIELD = 15;
+
+    static final int CATCH = 0, FINALLY = 1;
+
     private static int wrong = 0;
 
     private Check() {
+    }
+
+    /** Writes a BODY; each LINE is three numbers: its KIND, its a, its b. */
+    static int write(YieldMoor x, int... lines) {
+        int body = x.body();
+        for (int i = 0; i + 2 < lines.length; i += 3) x.line(body, lines[i], lines[i + 1], lines[i + 2]);
+        return body;
     }
 
     static void that(String what, boolean holds) {
