@@ -714,7 +714,6 @@ public final class YieldMoor {
         void end(int as, int with) {
             state = as;
             there = with;
-            stack.size = 0;
         }
 
         /** THROWS, if the way is a k, or RETURNS, if it is RETURNING. */

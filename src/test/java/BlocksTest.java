@@ -219,6 +219,12 @@ public final class BlocksTest {
         Check.due("LINES done", x.of(h, 7), 201);
         Check.due("11 on the STACK", x.stack(h, 0), 11);
         Check.due("11 again", x.resume(h, 0), OVER - 11);
+        int k = x.generator(endless(x, Check.TRY, 1, 12, Check.TRY, 1, 2));
+        Check.due("at 300 no HANDLER is left, not even one without a LINE", x.resume(k, 0), OVER - 11);
+        Check.due("LINES done", x.of(k, 7), 300);
+        int r = x.generator(endless(x, Check.TRY, 1, 12));
+        Check.due("at 200 there is: it RETURNS", x.resume(r, 0), OVER);
+        Check.due("LINES done", x.of(r, 7), 200);
     }
 
     private static void tooLongInInner() {
@@ -245,5 +251,16 @@ public final class BlocksTest {
         Check.due("186 LINES", x.resume(g, 0), 60 + 122);
         Check.due("186 LINES more", x.resume(g, 0), OVER);
         Check.due("LINES done", x.of(g, 7), 2 + 183 + 1 + 3 + 183);
+        int raised = Check.write(x, Check.ADD, 60, 0, Check.PUT, 0, 0, Check.TRY, 1, 6, Check.ADD, 1, 0, Check.LOOP, 0, 3,
+            Check.YIELD, 0, 0, Check.GET, 3, 0, Check.ADD, 60, 0, Check.PUT, 0, 0, Check.ADD, 1, 0, Check.LOOP, 0, 9,
+            Check.RETURN, 0, 0);
+        int r = x.generator(raised);
+        x.resume(r, 0);
+        Check.due("as it is THROWN into", x.raise(r, 1), OVER);
+        int c = x.generator(raised);
+        x.resume(c, 0);
+        Check.due("as it is CLOSED", x.close(c), 0);
+        Check.due("LINES of both", x.of(r, 7), x.of(c, 7));
+        Check.that("what there is", x.of(r, 4) > 100 && x.of(c, 4) > 100);
     }
 }

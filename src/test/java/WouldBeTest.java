@@ -11,6 +11,7 @@ public final class WouldBeTest {
         promise24();
         promise24OfRuns();
         nothingIsChanged();
+        nothingIsLeftOver();
         Check.end("WouldBeTest");
     }
 
@@ -218,5 +219,22 @@ public final class WouldBeTest {
         Check.throwsArgument("nor this", () -> x.run(51));
         Check.throwsArgument("nor this", () -> x.tick(21));
         Check.due("digest", x.digest(), before);
+    }
+
+    /** What was made as one question was answered must not be there for the next one. */
+    private static void nothingIsLeftOver() {
+        YieldMoor x = new YieldMoor();
+        int inner = Check.write(x, Check.ADD, 3, 0, Check.TRY, 1, 12, Check.TRY, 1, 12, Check.TRY, 1, 12,
+            Check.YIELD, 0, 0);
+        int g = x.generator(Check.write(x, Check.FROM, inner, 0));
+        for (int i = 0; i < 4; i++) Check.due("wouldGive again", x.wouldGive(g, 0), 3);
+        int puts = Check.write(x, Check.GET, 2, 0, Check.ADD, 3, 0, Check.PUT, 2, 0, Check.YIELD, 0, 0);
+        int h = x.generator(Check.write(x, Check.FROM, puts, 0));
+        for (int i = 0; i < 4; i++) Check.due("wouldGive again", x.wouldGive(h, 0), 3);
+        YieldMoor y = new YieldMoor();
+        int child = Check.write(y, Check.TRY, 0, 4, Check.YIELD, 0, 0, Check.YIELD, 0, 0, Check.YIELD, 0, 0,
+            Check.SHIELD, 1, 0);
+        y.start(Check.write(y, Check.SPAWN, child, 0, Check.YIELD, 0, 0, Check.THROW, 1, 0));
+        for (int i = 0; i < 4; i++) Check.due("overIn again", y.overIn(4), 2);
     }
 }
