@@ -640,6 +640,8 @@ public final class YieldMoor {
         private int line;
         /** What there is; with what it was RETURNED, or FAILED, as it is OVER. */
         private int there;
+        /** With what it RETURNS, from where that begins till it goes on with a HANDLER, or is OVER. */
+        private int returns;
         private int inner;
         private int outer;
         private int linesDone;
@@ -716,14 +718,20 @@ public final class YieldMoor {
             there = with;
         }
 
-        /** THROWS, if the way is a k, or RETURNS, if it is RETURNING. */
+        /** Begins a RETURN with what there is; answers the way by which it leaves. */
+        int beginReturn() {
+            returns = there;
+            return RETURNING;
+        }
+
+        /** THROWS, if the way is a k, or RETURNS with what it returns, if it is RETURNING. */
         void leave(int way) {
             for (int rest = stack.size; rest > 0; rest--) {
                 int sign = stack.lastSign();
                 int handler = stack.lastMark();
                 stack.takeOff();
                 if (sign == FINALLY) {
-                    stack.put(way, there);
+                    stack.put(way, returns);
                     goOnAt(handler);
                     return;
                 }
@@ -734,7 +742,7 @@ public final class YieldMoor {
                 }
             }
             if (way == RETURNING) {
-                end(RETURNED, there);
+                end(RETURNED, returns);
             } else {
                 end(FAILED, way);
             }
@@ -776,7 +784,7 @@ public final class YieldMoor {
                 case THROW:
                     return a;
                 case RETURN:
-                    return RETURNING;
+                    return beginReturn();
                 default:
                     break;
             }
@@ -799,6 +807,7 @@ public final class YieldMoor {
             return handler;
         }
 
+        /** A RETURN bears its value along; what there is stays what it is. */
         private int doLast() {
             int sign = stack.lastSign();
             if (sign == NOTHING || sign == CATCH || sign == FINALLY) {
@@ -811,9 +820,7 @@ public final class YieldMoor {
                 line = mark;
                 return NOTHING;
             }
-            if (sign == RETURNING) {
-                there = mark;
-            }
+            returns = mark;
             return sign;
         }
     }
@@ -1147,7 +1154,7 @@ public final class YieldMoor {
         /** Counts the LINE that would begin; answers the way by which the COROUTINE leaves instead, or NOTHING. */
         private int wayInstead(Coroutine one) {
             if (!bodies.at(one.body).hasLine(one.line)) {
-                return RETURNING;
+                return one.beginReturn();
             }
             if (linesBegun >= LINES_BEFORE_THROW && !tookTooLong) {
                 tookTooLong = true;

@@ -12,6 +12,7 @@ public final class BlocksTest {
         last();
         throwLosesWays();
         returnThroughFinally();
+        returnDoneAgain();
         stackIsFull();
         stackPlaces();
         tooLong();
@@ -147,6 +148,35 @@ public final class BlocksTest {
         ends("two FINALLY", OVER, 1, Check.ADD, 1, 0, Check.TRY, 1, 6, Check.TRY, 1, 4, Check.RETURN, 0, 0,
             Check.ADD, 20, 0, Check.LAST, 0, 0, Check.PUT, 2, 0, Check.LAST, 0, 0);
         ends("the RETURN of a HANDLER", OVER, 21, Check.ADD, 1, 0, Check.TRY, 1, 3, Check.RETURN, 0, 0, Check.ADD, 20, 0);
+    }
+
+    /** LAST that does a RETURN again: that bears its own value, and what there is stays what it is. */
+    private static void returnDoneAgain() {
+        YieldMoor x = new YieldMoor();
+        int body = Check.write(x, Check.ADD, 1, 0, Check.TRY, 1, 7, Check.TRY, 0, 10, Check.TRY, 1, 5,
+            Check.RETURN, 0, 0, Check.ADD, 20, 0, Check.LAST, 0, 0, Check.PUT, 2, 0, Check.YIELD, 0, 0, Check.LAST, 0, 0);
+        int g = x.generator(body);
+        Check.due("what there is in the next HANDLER", x.resume(g, 0), 21);
+        Check.due("the LOCAL", x.local(g, 2), 21);
+        Check.due("what there is", x.of(g, 4), 21);
+        Check.due("the RETURN on the STACK", x.stack(g, 0), -4);
+        Check.due("LAST", x.resume(g, 500), OVER);
+        Check.due("with what it was RETURNED", x.of(g, 4), 1);
+        int outer = x.generator(Check.write(x, Check.FROM, body, 0, Check.YIELD, 0, 0));
+        Check.due("of the INNER one", x.resume(outer, 0), 21);
+        Check.due("what the INNER one was RETURNED with", x.resume(outer, 500), 1);
+
+        ends("three FINALLY", OVER, 3, Check.ADD, 3, 0, Check.TRY, 1, 9, Check.TRY, 1, 7, Check.TRY, 1, 5,
+            Check.RETURN, 0, 0, Check.ADD, 20, 0, Check.LAST, 0, 0, Check.ADD, 40, 0, Check.LAST, 0, 0, Check.LAST, 0, 0);
+        ends("no LINE behind the next HANDLER", OVER, 24, Check.ADD, 1, 0, Check.TRY, 1, 6, Check.TRY, 1, 4,
+            Check.RETURN, 0, 0, Check.ADD, 20, 0, Check.LAST, 0, 0, Check.ADD, 3, 0);
+        ends("another RETURN in the next HANDLER", OVER, 24, Check.ADD, 1, 0, Check.TRY, 1, 6, Check.TRY, 1, 4,
+            Check.RETURN, 0, 0, Check.ADD, 20, 0, Check.LAST, 0, 0, Check.ADD, 3, 0, Check.RETURN, 0, 0, Check.ADD, 9, 0);
+        ends("another RETURN through a FINALLY of the next HANDLER", OVER, 24, Check.ADD, 1, 0, Check.TRY, 1, 6,
+            Check.TRY, 1, 4, Check.RETURN, 0, 0, Check.ADD, 20, 0, Check.LAST, 0, 0, Check.ADD, 3, 0, Check.TRY, 1, 9,
+            Check.RETURN, 0, 0, Check.ADD, 9, 0, Check.LAST, 0, 0);
+        ends("THROWN again, what there is stays too", OVER, 24, Check.ADD, 1, 0, Check.TRY, 1, 6, Check.TRY, 1, 4,
+            Check.THROW, 7, 0, Check.ADD, 20, 0, Check.LAST, 0, 0, Check.ADD, 3, 0);
     }
 
     private static void stackIsFull() {

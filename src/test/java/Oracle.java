@@ -191,17 +191,17 @@ final class Oracle {
         finish(c, FAILED, k);
     }
 
-    private static void toReturn(Co c) {
+    private static void toReturn(Co c, int with) {
         c.state = 2;
         while (!c.stack.isEmpty()) {
             Way w = c.stack.remove(c.stack.size() - 1);
             if (w.sort.equals("FINALLY")) {
-                c.stack.add(new Way("RETURN", c.acc));
+                c.stack.add(new Way("RETURN", with));
                 c.pc = w.mark;
                 return;
             }
         }
-        finish(c, RETURNED, c.acc);
+        finish(c, RETURNED, with);
     }
 
     private void resumeCo(Co c, int value) {
@@ -304,7 +304,7 @@ final class Oracle {
         while (!c.over() && c.state != WAITING) {
             List<int[]> rows = bodies.get(c.body);
             if (c.pc >= rows.size()) {
-                toReturn(c);
+                toReturn(c, c.acc);
             } else if (begun == 200 && !eleven) {
                 eleven = true;
                 toThrow(c, 11);
@@ -350,7 +350,7 @@ final class Oracle {
                     c.stack.remove(c.stack.size() - 1);
                     if (last.sort.equals("NORMAL")) c.pc = last.mark;
                     if (last.sort.equals("THROWN")) toThrow(c, last.mark);
-                    if (last.sort.equals("RETURN")) { c.acc = last.mark; toReturn(c); }
+                    if (last.sort.equals("RETURN")) toReturn(c, last.mark);
                 } else {
                     c.pc++;
                 }
@@ -362,7 +362,7 @@ final class Oracle {
                 resumeCo(c.inner, 0);
                 takeInner(c);
                 return;
-            case 11: toReturn(c); return;
+            case 11: toReturn(c, c.acc); return;
             case 12:
                 if (own == null) toThrow(c, 3);
                 else if (!heeds(c)) { c.state = WAITING; own.wakes = now + a; }
