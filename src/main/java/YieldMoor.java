@@ -640,7 +640,7 @@ public final class YieldMoor {
         private int line;
         /** What there is; with what it was RETURNED, or FAILED, as it is OVER. */
         private int there;
-        /** With what it RETURNS, from where that begins till it goes on with a HANDLER, or is OVER. */
+        /** With what it RETURNS; of use till it goes on with a HANDLER or is OVER, so no trial needs a copy of it. */
         private int returns;
         private int inner;
         private int outer;

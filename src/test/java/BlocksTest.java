@@ -164,6 +164,7 @@ public final class BlocksTest {
         Check.due("with what it was RETURNED", x.of(g, 4), 1);
         int outer = x.generator(Check.write(x, Check.FROM, body, 0, Check.YIELD, 0, 0));
         Check.due("of the INNER one", x.resume(outer, 0), 21);
+        Check.due("what the INNER one would be RETURNED with", x.wouldGive(outer, 500), 1);
         Check.due("what the INNER one was RETURNED with", x.resume(outer, 500), 1);
 
         ends("three FINALLY", OVER, 3, Check.ADD, 3, 0, Check.TRY, 1, 9, Check.TRY, 1, 7, Check.TRY, 1, 5,
@@ -175,6 +176,8 @@ public final class BlocksTest {
         ends("another RETURN through a FINALLY of the next HANDLER", OVER, 24, Check.ADD, 1, 0, Check.TRY, 1, 6,
             Check.TRY, 1, 4, Check.RETURN, 0, 0, Check.ADD, 20, 0, Check.LAST, 0, 0, Check.ADD, 3, 0, Check.TRY, 1, 9,
             Check.RETURN, 0, 0, Check.ADD, 9, 0, Check.LAST, 0, 0);
+        ends("another RETURN in between, which was lost", OVER, 1, Check.ADD, 1, 0, Check.TRY, 1, 3, Check.RETURN, 0, 0,
+            Check.TRY, 0, 8, Check.TRY, 1, 7, Check.ADD, 23, 0, Check.RETURN, 0, 0, Check.THROW, 3, 0, Check.LAST, 0, 0);
         ends("THROWN again, what there is stays too", OVER, 24, Check.ADD, 1, 0, Check.TRY, 1, 6, Check.TRY, 1, 4,
             Check.THROW, 7, 0, Check.ADD, 20, 0, Check.LAST, 0, 0, Check.ADD, 3, 0);
     }

@@ -1,9 +1,13 @@
 /** Long runs of calls, chosen by a fixed row of numbers, on YieldMoor and on the Oracle: both must answer the same. */
 public final class OracleTest {
-    private static final int RUNS = 6000;
+    private static final int RUNS = 20000;
     private static final String[] NAMES = {"body", "line", "ofBody", "generator", "resume", "raise", "close", "start",
         "run", "tick", "cancel", "of", "local", "stack", "ofTask", "many", "meanLines", "wouldGive", "wouldClose",
         "overIn", "isOverBy", "left", "digest"};
+
+    /** How often each KIND is written; the second row is for BODIES of many BLOCKS, which RETURN through them. */
+    private static final int[] MIXED = {8, 5, 6, 16, 5, 4, 12, 8, 6, 5, 8, 3, 5, 8, 5, 4};
+    private static final int[] BLOCKS = {8, 1, 2, 8, 1, 1, 14, 4, 8, 2, 1, 6, 1, 1, 1, 1};
 
     private static long seed;
 
@@ -44,9 +48,11 @@ public final class OracleTest {
         int bodies = from(1, 8);
         for (int b = 0; b < bodies; b++) {
             if (!same(run, x, o, new int[] {0, 0, 0, 0, 0}, log)) return;
-            int lines = from(0, 12);
+            boolean blocks = any(3) == 0;
+            int lines = blocks ? from(6, 12) : from(0, 12);
             for (int n = 0; n < lines; n++) {
-                if (!same(run, x, o, lineOf(b, n, bodies, tasks), log)) return;
+                int[] line = lineOf(blocks ? BLOCKS : MIXED, b, n, bodies, tasks);
+                if (!same(run, x, o, line, log)) return;
             }
         }
         int calls = from(10, 90);
@@ -59,12 +65,12 @@ public final class OracleTest {
         same(run, x, o, new int[] {22, 0, 0, 0, 0}, log);
     }
 
-    private static int[] lineOf(int body, int n, int bodies, boolean tasks) {
-        int[] weights = {8, 5, 6, 16, 5, 4, 12, 8, 6, 5, 8, 3, 5, 8, 5, 4};
+    private static int[] lineOf(int[] weights, int body, int n, int bodies, boolean tasks) {
         int sum = 0;
         for (int w : weights) sum += w;
         int pick = any(sum), kind = 0;
         while (pick >= weights[kind]) pick -= weights[kind++];
+        if (weights == BLOCKS && n < 4 && any(2) == 0) kind = 6;
         if (!tasks && kind >= 12 && any(4) > 0) kind = 3;
         int a = 0, b = 0;
         switch (kind) {
@@ -72,7 +78,7 @@ public final class OracleTest {
             case 1: case 2: a = any(4); break;
             case 4: a = any(4); b = from(0, n); break;
             case 5: case 7: b = Math.min(12, from(n + 1, n + 4)); break;
-            case 6: a = any(2); b = Math.min(12, from(n + 1, n + 5)); break;
+            case 6: a = any(2); b = from(n + 1, weights == BLOCKS ? 12 : Math.min(12, n + 5)); break;
             case 9: a = from(1, 7); break;
             case 10: case 14: a = any(12) == 0 ? any(8) : any(bodies); break;
             case 12: a = from(1, 4); break;
