@@ -1,5 +1,5 @@
-/** What the tests say of the answers they got. */
-final class Check {
+/** What the tests say of the answers they got. Tests of many LINES extend it, to name KINDS without "Check.". */
+class Check {
     interface Call {
         void run();
     }
@@ -12,8 +12,11 @@ final class Check {
     static final int CATCH = 0, FINALLY = 1;
 
     private static int wrong = 0;
+    private static String sentence = "";
 
-    private Check() {
+    /** Says which sentence of the document the answers that follow are due by: it is named with each that is wrong. */
+    static void sentence(String where, String words) {
+        sentence = " (" + where + ": \"" + words + "\")";
     }
 
     /** Writes a BODY; each LINE is three numbers: its KIND, its a, its b. */
@@ -26,7 +29,7 @@ final class Check {
     static void that(String what, boolean holds) {
         if (!holds) {
             wrong++;
-            if (wrong <= 20) System.out.println("wrong: " + what);
+            if (wrong <= 20) System.out.println("wrong: " + what + sentence);
         }
     }
 
