@@ -172,6 +172,8 @@ public final class Promises1To12EdgesTest extends Check {
         waits(2, DONE, 0, 3, y, 0, 0, RETURN, 0, 0, SKIP, 0, 6, LOOP, 0, 1, RETURN, 0, 0, y, 0, 0);
         waits(3, SKIP, 0, 11, DONE, 0, 9, y, 0, 0, DONE, 0, 12, y, 0, 0, LOOP, 0, 2, RETURN, 0, 0, LOOP, 0, 4, y, 0, 0,
             LOOP, 0, 7, RETURN, 0, 0, LOOP, 0, 5);
+        waits(1, DONE, 0, 11, y, 0, 0, LOOP, 0, 1, LOOP, 0, 2, LOOP, 0, 3, LOOP, 0, 4, LOOP, 0, 5, LOOP, 0, 6, LOOP, 0, 7,
+            LOOP, 0, 8, LOOP, 0, 9, LOOP, 0, 10);
     }
 
     private static void promise4NotBehind() {

@@ -38,7 +38,7 @@ public final class RefusedCallsTest extends Check {
     /** The same as many(), with 8 BODIES and 24 COROUTINES. */
     private static YieldMoor full() {
         YieldMoor x = many();
-        while (x.many(0) < 8) x.body();
+        while (x.many(0) < 8) x.line(x.body(), YIELD, 0, 0);
         while (x.many(1) < 24) x.generator(0);
         return x;
     }

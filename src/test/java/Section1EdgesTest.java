@@ -23,6 +23,7 @@ public final class Section1EdgesTest extends Check {
         noLine();
         noLineByEachWay();
         zeroAtFirst();
+        zeroAtFirstInWhatWouldBe();
         held();
         Check.end("Section1EdgesTest");
     }
@@ -367,6 +368,24 @@ public final class Section1EdgesTest extends Check {
         due("a LOCAL of the outer one", x.local(g, 3), 5);
         due("GET of a LOCAL of the INNER one", x.resume(g, 70), 0);
         due("of its BODY", x.of(2, 0), inner);
+    }
+
+    /** What is made as a question is answered is 0 at first too, however often one asks. */
+    private static void zeroAtFirstInWhatWouldBe() {
+        sentence("section 1", "What there is, and each LOCAL, is 0 at first");
+        for (int local = 0; local <= 3; local++) {
+            YieldMoor x = new YieldMoor();
+            int there = write(x, ADD, 5, 0, YIELD, 0, 0);
+            int ofLocal = write(x, GET, local, 0, ADD, 5, 0, PUT, local, 0, YIELD, 0, 0);
+            int g = x.generator(write(x, FROM, there, 0));
+            int h = x.generator(write(x, FROM, ofLocal, 0));
+            for (int again = 0; again < 3; again++) {
+                due("what there is", x.wouldGive(g, 0), 5);
+                due("the LOCAL " + local, x.wouldGive(h, 0), 5);
+            }
+            due("what there is", x.resume(g, 0), 5);
+            due("the LOCAL " + local, x.resume(h, 0), 5);
+        }
     }
 
     /** What is given behind 101 times step, and then a. */

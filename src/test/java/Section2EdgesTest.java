@@ -437,8 +437,8 @@ public final class Section2EdgesTest extends Check {
             due("with 11", x.of(0, 4), 11);
             stackIs(x, 0);
         }
-        YieldMoor x = tells("no HANDLER any more, not even one where no LINE is", OVER - 11, join(lines(TRY, 1, 11),
-            lines(TRY, 1, 6), spend(2, 198), spend(6, 100)));
+        YieldMoor x = tells("no HANDLER any more, not even one where no LINE is", OVER - 11, join(
+            lines(TRY, 1, 12, TRY, 1, 7), spend(2, 198), spend(7, 101)));
         stackIs(x, 0);
         due("LINES done", x.of(0, 7), 300);
     }
