@@ -14,6 +14,13 @@ class Check {
     private static int wrong = 0;
     private static String sentence = "";
 
+    static {
+        Thread.setDefaultUncaughtExceptionHandler((thread, e) -> {
+            System.out.println("wrong: " + e + " was thrown, due is an answer" + sentence);
+            e.printStackTrace(System.out);
+        });
+    }
+
     /** Says which sentence of the document the answers that follow are due by: it is named with each that is wrong. */
     static void sentence(String where, String words) {
         sentence = " (" + where + ": \"" + words + "\")";

@@ -7,6 +7,8 @@ public final class Promises13To24EdgesTest extends Check {
 
     public static void main(String[] args) {
         promise13NotWaiting();
+        promise13Sorts();
+        promise13Stack();
         promise13ReadyAgain();
         promise13WhatThereIs();
         promise13Inner();
@@ -58,18 +60,47 @@ public final class Promises13To24EdgesTest extends Check {
         YieldMoor x = sorts();
         int[] due = {0, 0, NONE, NONE, NONE, NONE};
         for (int n = 0; n < 6; n++) due("of(" + n + ", 3)", x.of(n, 3), due[n]);
-        int[] states = {1, 1, 0, 0, 3, 4};
-        for (int n = 0; n < 6; n++) due("of(" + n + ", 1)", x.of(n, 1), states[n]);
-        int[] sorts = {0, 2, 0, 1, 0, 0};
-        for (int n = 0; n < 6; n++) due("of(" + n + ", 2)", x.of(n, 2), sorts[n]);
-        int[] bodies = {1, 0, 0, 0, 0, 0};
-        for (int n = 0; n < 6; n++) due("of(" + n + ", 0)", x.of(n, 0), bodies[n]);
         YieldMoor y = new YieldMoor();
         int last = y.body();
         for (int n = 0; n < 11; n++) y.line(last, LAST, 0, 0);
         y.line(last, YIELD, 0, 0);
         y.resume(y.generator(last), 0);
         due("the LINE 11", y.of(0, 3), 11);
+    }
+
+    private static void promise13Sorts() {
+        sentence("promise 13", "0 its BODY, 1 whether it is NEW, WAITING, RETURNED or FAILED (0, 1, 3, 4), 2 0 for a GENERATOR, "
+            + "1 a TASK, 2 an INNER one");
+        YieldMoor x = sorts();
+        int[] states = {1, 1, 0, 0, 3, 4};
+        for (int n = 0; n < 6; n++) due("of(" + n + ", 1)", x.of(n, 1), states[n]);
+        int[] sorts = {0, 2, 0, 1, 0, 0};
+        for (int n = 0; n < 6; n++) due("of(" + n + ", 2)", x.of(n, 2), sorts[n]);
+        int[] bodies = {1, 0, 0, 0, 0, 0};
+        for (int n = 0; n < 6; n++) due("of(" + n + ", 0)", x.of(n, 0), bodies[n]);
+        while (x.many(0) < 8) x.body();
+        while (x.many(1) < 23) x.generator(0);
+        int task = x.start(7);
+        due("the BODY 7 of the COROUTINE 23", x.of(task, 0), 7);
+        due("it is a TASK", x.of(23, 2), 1);
+    }
+
+    private static void promise13Stack() {
+        sentence("promise 13", "5 how many are on its STACK");
+        for (int size = 0; size <= 7; size++) {
+            YieldMoor x = new YieldMoor();
+            int body = x.body();
+            for (int n = 0; n < size; n++) x.line(body, TRY, 1, 8);
+            for (int n = size; n < 9; n++) x.line(body, YIELD, 0, 0);
+            int g = x.generator(body);
+            due("of a NEW one", x.of(g, 5), 0);
+            x.resume(g, 0);
+            due("behind " + size + " TRY", x.of(g, 5), Math.min(6, size));
+            x.raise(g, 7);
+            due("a WAY in place of one of them", x.of(g, 5), size == 0 ? 0 : size == 7 ? 5 : size);
+            while (x.of(g, 1) == 1) x.raise(g, 7);
+            due("as it is OVER", x.of(g, 5), 0);
+        }
     }
 
     private static void promise13ReadyAgain() {
@@ -158,7 +189,7 @@ public final class Promises13To24EdgesTest extends Check {
     }
 
     private static void promise13Throws() {
-        sentence("promise 13", "Throws IndexOutOfBoundsException if there is no such COROUTINE. Throws "
+        sentence("promise 13", "Throws IndexOutOfBoundsException if there is no such COROUTINE .. Throws "
             + "IllegalArgumentException if what is not 0 to 7");
         YieldMoor x = sorts();
         for (int n : new int[] {MIN, -1, 6, 23, 24, MAX}) {
@@ -196,7 +227,7 @@ public final class Promises13To24EdgesTest extends Check {
     }
 
     private static void promise15() {
-        sentence("promise 15", "place: a place in its STACK, from 0 (the first one that is on it). Returns -1 for a CATCH, -2 "
+        sentence("promise 15", "place: a place in its STACK, from 0 (the first one that is on it) .. Returns -1 for a CATCH, -2 "
             + "for a FINALLY, -3 for a NORMAL WAY, -4 for a RETURN, k for a THROWN one.");
         YieldMoor x = new YieldMoor();
         int g = x.generator(write(x, TRY, 1, 2, THROW, 7, 0, TRY, 1, 4, RETURN, 0, 0, TRY, 1, 6, DONE, 0, 12, TRY, 0, 12,
@@ -320,7 +351,7 @@ public final class Promises13To24EdgesTest extends Check {
     }
 
     private static void promise16Throws() {
-        sentence("promise 16", "Throws IndexOutOfBoundsException if there is no such TASK. Throws IllegalArgumentException if "
+        sentence("promise 16", "Throws IndexOutOfBoundsException if there is no such TASK .. Throws IllegalArgumentException if "
             + "what is not 0 to 6");
         YieldMoor x = sorts();
         for (int n : new int[] {MIN, -1, 0, 1, 2, 4, 5, 6, 24, MAX}) {
@@ -408,7 +439,7 @@ public final class Promises13To24EdgesTest extends Check {
     }
 
     private static void promise19Throws() {
-        sentence("promise 19", "Throws IndexOutOfBoundsException if there is no such one that is not. Throws "
+        sentence("promise 19", "Throws IndexOutOfBoundsException if there is no such one that is not .. Throws "
             + "IllegalArgumentException if value is not -999 to 999");
         YieldMoor x = sorts();
         for (int n : new int[] {MIN, -1, 1, 3, 4, 5, 6, 24, MAX}) {
@@ -453,7 +484,7 @@ public final class Promises13To24EdgesTest extends Check {
     }
 
     private static void promise21() {
-        sentence("promise 21", "turns: how many turns at most. Returns how many TASKS would be OVER behind that.");
+        sentence("promise 21", "turns: how many turns at most .. Returns how many TASKS would be OVER behind that.");
         YieldMoor x = new YieldMoor();
         due("without a TASK", x.overIn(1), 0);
         due("without a TASK", x.overIn(50), 0);
@@ -509,7 +540,7 @@ public final class Promises13To24EdgesTest extends Check {
     }
 
     private static void promise22Throws() {
-        sentence("promise 22", "Throws IndexOutOfBoundsException if there is no such TASK. Throws IllegalArgumentException if "
+        sentence("promise 22", "Throws IndexOutOfBoundsException if there is no such TASK .. Throws IllegalArgumentException if "
             + "turns is not 1 to 50");
         YieldMoor x = sorts();
         for (int n : new int[] {MIN, -1, 0, 1, 2, 4, 5, 6, 24, MAX}) {

@@ -50,7 +50,7 @@ public final class Promises1To12EdgesTest extends Check {
     }
 
     private static void promise2() {
-        sentence("promise 2", "Adds a BODY without LINES. Returns its number. Throws IllegalStateException if there are 8");
+        sentence("promise 2", "Adds a BODY without LINES .. Returns its number .. Throws IllegalStateException if there are 8");
         YieldMoor x = new YieldMoor();
         for (int n = 0; n < 8; n++) {
             due("body", x.body(), n);
@@ -189,7 +189,7 @@ public final class Promises1To12EdgesTest extends Check {
     }
 
     private static void promise4Throws() {
-        sentence("promise 4", "Throws IndexOutOfBoundsException if there is no such BODY. Throws IllegalArgumentException if "
+        sentence("promise 4", "Throws IndexOutOfBoundsException if there is no such BODY .. Throws IllegalArgumentException if "
             + "what is not 0 to 2");
         YieldMoor x = new YieldMoor();
         x.body();
@@ -202,8 +202,8 @@ public final class Promises1To12EdgesTest extends Check {
     }
 
     private static void promise5() {
-        sentence("promise 5", "Makes a GENERATOR. Returns its number. Throws IndexOutOfBoundsException if there is no such "
-            + "BODY. Throws IllegalStateException if there are 24 COROUTINES");
+        sentence("promise 5", "Makes a GENERATOR .. Returns its number .. Throws IndexOutOfBoundsException if there is no such "
+            + "BODY .. Throws IllegalStateException if there are 24 COROUTINES");
         YieldMoor x = new YieldMoor();
         x.body();
         x.body();
@@ -220,13 +220,14 @@ public final class Promises1To12EdgesTest extends Check {
     }
 
     private static void promise6Tells() {
-        sentence("promise 6", "Returns what it gives, as above. (what one gives is told as it is; -20000 if it is RETURNED, "
-            + "-20000 - k if it is FAILED with k)");
+        sentence("promise 6", "Returns what it gives, as above.");
         YieldMoor x = new YieldMoor();
         int g = x.generator(write(x, YIELD, 0, 0, ADD, 1, 0, YIELD, 0, 0, YIELD, 0, 0));
         due("0", x.resume(g, 999), 0);
         due("the most value", x.resume(g, 999), 1000);
         due("the least value", x.resume(g, -999), -999);
+        sentence("behind section 5", "(what one gives is told as it is; -20000 if it is RETURNED, -20000 - k if it is FAILED "
+            + "with k)");
         due("RETURNED", x.resume(g, 5), OVER);
         for (int k = 1; k <= 7; k++) due("FAILED", x.resume(x.generator(write(x, THROW, k, 0)), 0), OVER - k);
         YieldMoor y = new YieldMoor();
@@ -234,8 +235,8 @@ public final class Promises1To12EdgesTest extends Check {
     }
 
     private static void promise6Throws() {
-        sentence("promise 6", "Throws IndexOutOfBoundsException if there is no such GENERATOR. Throws IllegalArgumentException "
-            + "if value is not -999 to 999. Throws IllegalStateException if it is OVER");
+        sentence("promise 6", "Throws IndexOutOfBoundsException if there is no such GENERATOR .. Throws IllegalArgumentException "
+            + "if value is not -999 to 999 .. Throws IllegalStateException if it is OVER");
         YieldMoor x = sorts();
         for (int n : new int[] {MIN, -1, 1, 3, 6, 24, MAX}) {
             throwsBounds("resume(" + n + ", 0)", () -> x.resume(n, 0));
@@ -265,7 +266,7 @@ public final class Promises1To12EdgesTest extends Check {
     }
 
     private static void promise7Tells() {
-        sentence("promise 7", "THROWS into a GENERATOR. Returns what it gives, as above.");
+        sentence("promise 7", "THROWS into a GENERATOR .. Returns what it gives, as above.");
         YieldMoor x = sorts();
         due("into a NEW one", x.raise(2, 1), OVER - 1);
         due("into one that WAITS at a FROM", x.raise(0, 7), OVER - 7);
@@ -279,8 +280,8 @@ public final class Promises1To12EdgesTest extends Check {
     }
 
     private static void promise7Throws() {
-        sentence("promise 7", "Throws IndexOutOfBoundsException if there is no such GENERATOR. Throws IllegalArgumentException "
-            + "if k is not 1 to 7. Throws IllegalStateException if it is OVER");
+        sentence("promise 7", "Throws IndexOutOfBoundsException if there is no such GENERATOR .. Throws IllegalArgumentException "
+            + "if k is not 1 to 7 .. Throws IllegalStateException if it is OVER");
         YieldMoor x = sorts();
         for (int n : new int[] {MIN, -1, 1, 3, 6, 24, MAX}) {
             throwsBounds("raise(" + n + ", 1)", () -> x.raise(n, 1));
@@ -335,7 +336,7 @@ public final class Promises1To12EdgesTest extends Check {
     }
 
     private static void promise9() {
-        sentence("promise 9", "Starts a TASK. Returns its number. Throws IndexOutOfBoundsException if there is no such BODY. "
+        sentence("promise 9", "Starts a TASK .. Returns its number .. Throws IndexOutOfBoundsException if there is no such BODY .. "
             + "Throws IllegalStateException if there are 24 COROUTINES");
         YieldMoor x = new YieldMoor();
         x.body();
@@ -355,7 +356,7 @@ public final class Promises1To12EdgesTest extends Check {
     }
 
     private static void promise10() {
-        sentence("promise 10", "Does turns, as long as there is a READY one. turns: how many at most. Returns how many were "
+        sentence("promise 10", "Does turns, as long as there is a READY one .. turns: how many at most .. Returns how many were "
             + "done.");
         YieldMoor x = new YieldMoor();
         due("without a TASK", x.run(1), 0);
@@ -385,7 +386,7 @@ public final class Promises1To12EdgesTest extends Check {
     }
 
     private static void promise11() {
-        sentence("promise 11", "NOW becomes 1 more, so many times. Returns how many TASKS became READY by that.");
+        sentence("promise 11", "NOW becomes 1 more, so many times .. Returns how many TASKS became READY by that.");
         YieldMoor x = new YieldMoor();
         due("without a TASK", x.tick(20), 0);
         due("NOW", x.many(9), 20);
